@@ -689,12 +689,10 @@ public final class ChimeVan {
 
         void copy(Folk other) {
             size = other.size;
-            for (int who = 0; who < size; who++) {
-                home[who] = other.home[who];
-                kind[who] = other.kind[who];
-                due[who] = other.due[who];
-                ears[who] = other.ears[who];
-            }
+            System.arraycopy(other.home, 0, home, 0, MOST_PEOPLE);
+            System.arraycopy(other.kind, 0, kind, 0, MOST_PEOPLE);
+            System.arraycopy(other.due, 0, due, 0, MOST_PEOPLE);
+            System.arraycopy(other.ears, 0, ears, 0, MOST_PEOPLE);
         }
 
         int needs(int who) {
@@ -745,9 +743,7 @@ public final class ChimeVan {
             van = other.van;
             hour = other.hour;
             served = other.served;
-            for (int who = 0; who < MOST_PEOPLE; who++) {
-                counts[who] = other.counts[who];
-            }
+            System.arraycopy(other.counts, 0, counts, 0, MOST_PEOPLE);
         }
 
         boolean isServed(int who) {
@@ -814,7 +810,7 @@ public final class ChimeVan {
 
         void copy(Hearsay other) {
             size = other.size;
-            for (int nth = 0; nth < size; nth++) {
+            for (int nth = 0; nth < MOST_SEEN; nth++) {
                 who[nth] = other.who[nth];
                 heard[nth] = other.heard[nth];
             }
@@ -846,7 +842,7 @@ public final class ChimeVan {
 
         private void extend(Town town, Folk folk, int depth, int hours) {
             if (depth >= hours || depth >= MOST_ROUND_HOURS) {
-                judge(trials[depth], depth);
+                judge(trials[depth]);
                 return;
             }
             Evening here = trials[depth];
@@ -861,15 +857,13 @@ public final class ChimeVan {
             }
         }
 
-        private void judge(Evening end, int hours) {
+        private void judge(Evening end) {
             int served = end.servedNumber() - trials[0].servedNumber();
             int counted = end.countedByUnserved();
             if (served > bestServed || served == bestServed && counted > bestCounted) {
                 bestServed = served;
                 bestCounted = counted;
-                for (int nth = 0; nth < hours; nth++) {
-                    bestWay[nth] = way[nth];
-                }
+                System.arraycopy(way, 0, bestWay, 0, MOST_ROUND_HOURS);
             }
         }
     }
@@ -916,9 +910,7 @@ public final class ChimeVan {
                 later[other] += partPerRoad(town, one);
                 later[one] += partPerRoad(town, other);
             }
-            for (int place = 0; place < town.corners; place++) {
-                chance[place] = later[place];
-            }
+            System.arraycopy(later, 0, chance, 0, town.corners);
         }
 
         private long partPerRoad(Town town, int from) {

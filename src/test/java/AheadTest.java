@@ -5,6 +5,7 @@ public final class AheadTest {
 
     public static void main(String[] args) {
         bestRounds();
+        laterRounds();
         roundRefusals();
         oddsAsTold();
         oddsRefusals();
@@ -41,6 +42,18 @@ public final class AheadTest {
         roundIs("20;01;p050,p140", 5, 2, 0, 0, 0, 0, 1, 0);
         roundIs("30;01;t200,t200", 4, 0, 0, 0, 0, 0, 0);
         roundIs("21;01;p000,h100", 3, 2, 0, 0, 1, 1);
+    }
+
+    private static void laterRounds() {
+        ChimeVan van = Check.of("31;01,12;p100,p000,t200");
+        CHECK.due("who will be served", van.round(2, 0), 2);
+        CHECK.due("go(1)", van.go(1), 1);
+        CHECK.due("who is served already does not count", van.round(1, 0), 1);
+        CHECK.due("go(0)", van.go(0), 1);
+        CHECK.due("nobody is in reach", van.round(1, 0), 0);
+        CHECK.due("nothing counts", van.round(1, 1), 0);
+        CHECK.due("the first by numbers", van.round(1, 10), 0);
+        CHECK.due("a thinker in two hours counts once", van.round(2, 1), 1);
     }
 
     private static void roundRefusals() {
@@ -91,6 +104,10 @@ public final class AheadTest {
         van = Check.of("20;01;p000,p100");
         oddsAre(van, 0, 4, 1, 1);
         oddsAre(van, 0, 3, 0, 1);
+        Check.type(van, "30;01,02;p100,p200");
+        van.suburb();
+        oddsAre(van, 0, 1, 1, 2);
+        oddsAre(van, 1, 3, 1, 2);
     }
 
     private static void oddsRefusals() {
@@ -125,6 +142,9 @@ public final class AheadTest {
         CHECK.due("who is served already does not count", van.evenings(1, 0, 0), 1);
         van.stand(2);
         CHECK.due("a road that does not end there", van.evenings(1, 0, 1), 2);
+        ChimeVan lane = Check.of("20;01;p000,p100");
+        CHECK.due("evenings(3, 7, 1) by the only road", lane.evenings(3, 7, 1), 1);
+        CHECK.due("evenings(3, 7, 0) by the only road", lane.evenings(3, 7, 0), 2);
         long seed = Integer.MAX_VALUE;
         for (int hours = 1; hours <= 60; hours++) {
             seed = (1103515245L * seed + 12345L) % 2147483648L;

@@ -83,6 +83,10 @@ public final class PeopleTest {
         facts(van, 0, 4, 0, 9, 8, 0, 0, 3, 1, 10);
         CHECK.due("call(1, 0, 0, 9)", van.call(1, 0, 0, 9), 4);
         facts(van, 1, 0, 0, 0, 9, 0, 0, 1, 1, 1);
+        CHECK.due("call(1, 3, 0, 0), the least", van.call(1, 3, 0, 0), 0);
+        facts(van, 1, 3, 0, 0, 0, 0, 0, 2, 1, 2);
+        CHECK.due("call(1, 4, 9, 9), the most", van.call(1, 4, 9, 9), 3);
+        facts(van, 1, 4, 0, 9, 9, 0, 0, 3, 1, 10);
         long before = van.digest();
         CHECK.due("call(2, 9, 10, 10)", van.call(2, 9, 10, 10), ChimeVan.UNKNOWN);
         CHECK.due("call(0, 5, 0, 0)", van.call(0, 5, 0, 0), ChimeVan.OUTSIDE);

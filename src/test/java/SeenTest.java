@@ -66,6 +66,7 @@ public final class SeenTest {
         long before = van.digest();
         van.go(0);
         van.go(1);
+        van.call(0, 4, 5, 6);
         van.call(1, 3, 4, 5);
         van.forget();
         van.see(0, false);
@@ -100,6 +101,8 @@ public final class SeenTest {
         for (int what = 0; what < due.length; what++) {
             CHECK.due("count(" + what + ")", van.count(what), due[what]);
         }
+        van.stand(0);
+        CHECK.due("count(7) where the first one hears it", van.count(7), 3);
         for (int wrong : new int[] {-1, 12, Integer.MIN_VALUE, Integer.MAX_VALUE}) {
             CHECK.due("count(" + wrong + ")", van.count(wrong), ChimeVan.OUTSIDE);
         }
