@@ -24,7 +24,6 @@ public final class FaceTest {
         members();
         constants();
         words();
-        lateHours();
         CHECK.end();
     }
 
@@ -89,17 +88,6 @@ public final class FaceTest {
             boolean isThere = Pattern.compile("\\b(" + word + "\\b)").matcher(code).find();
             holds("no '" + word + "' in the code", !isThere);
         }
-    }
-
-    /** Hour 1000 takes more calls than an object is promised for; the refusal stands in the code all the same. */
-    private static void lateHours() {
-        ChimeVan van = Check.of("20;01;p000,p100");
-        for (int hour = 1; hour < 1000; hour++) {
-            van.go(hour % 2);
-        }
-        CHECK.due("count(4)", van.count(4), 999);
-        CHECK.due("go(0) to hour 1000", van.go(0), ChimeVan.FULL);
-        CHECK.due("go(2)", van.go(2), ChimeVan.UNKNOWN);
     }
 
     private static void holds(String what, boolean isSo) {

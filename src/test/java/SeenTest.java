@@ -108,52 +108,17 @@ public final class SeenTest {
         }
     }
 
-    private static long mixed(long sum, long number) {
-        return 31 * sum + number;
-    }
-
-    private static long digestByCalls(ChimeVan van, String page) {
-        long sum = 1237;
-        for (int who = 0; who < van.count(2); who++) {
-            for (int what = 0; what <= 8; what++) {
-                sum = mixed(sum, van.person(who, what));
-            }
-            sum = mixed(sum, van.odds(who, 2, 0));
-            sum = mixed(sum, van.odds(who, 2, 1));
-        }
-        for (int road = 0; road < van.count(1); road++) {
-            sum = mixed(sum, van.road(road, 0));
-            sum = mixed(sum, van.road(road, 1));
-        }
-        for (int corner = 0; corner < van.count(0); corner++) {
-            for (int what = 0; what <= 3; what++) {
-                sum = mixed(sum, van.corner(corner, what));
-            }
-        }
-        if (van.count(10) > 0) {
-            sum = mixed(sum, van.places());
-            sum = mixed(sum, van.ask());
-        }
-        for (int place = 0; place < page.length(); place++) {
-            sum = mixed(sum, page.charAt(place));
-        }
-        for (int what = 0; what <= 11; what++) {
-            sum = mixed(sum, van.count(what));
-        }
-        return sum;
-    }
-
     private static void digests() {
         ChimeVan van = new ChimeVan();
         Check.type(van, "50;x");
-        CHECK.due("digest() without a suburb", van.digest(), digestByCalls(van, "50;x"));
+        CHECK.due("digest() without a suburb", van.digest(), Digests.byCalls(van, "50;x"));
         van = Check.of("50;01,12,21,23;p100,c000,t100,p400");
-        CHECK.due("digest()", van.digest(), digestByCalls(van, ""));
+        CHECK.due("digest()", van.digest(), Digests.byCalls(van, ""));
         van.go(1);
         van.see(0, true);
         van.round(2, 0);
         Check.type(van, "ab");
-        CHECK.due("digest() later", van.digest(), digestByCalls(van, "ab"));
-        CHECK.due("digest() changes nothing", van.digest(), digestByCalls(van, "ab"));
+        CHECK.due("digest() later", van.digest(), Digests.byCalls(van, "ab"));
+        CHECK.due("digest() changes nothing", van.digest(), Digests.byCalls(van, "ab"));
     }
 }
