@@ -24,6 +24,11 @@ public final class FaceTest {
         members();
         constants();
         words();
+        sizes(ChimeVan.class);
+        holds("twelve classes at most", ChimeVan.class.getDeclaredClasses().length < 12);
+        for (Class<?> inside : ChimeVan.class.getDeclaredClasses()) {
+            sizes(inside);
+        }
         CHECK.end();
     }
 
@@ -78,6 +83,19 @@ public final class FaceTest {
                     || Modifier.isPrivate(field.getModifiers()));
         }
         CHECK.due("public fields", number, 5);
+    }
+
+    private static void sizes(Class<?> one) {
+        int fields = 0;
+        for (Field field : one.getDeclaredFields()) {
+            boolean isStatic = Modifier.isStatic(field.getModifiers());
+            fields += isStatic ? 0 : 1;
+            holds(field + " is final if it is static", !isStatic || Modifier.isFinal(field.getModifiers()));
+        }
+        holds(one + " has twenty fields at most", fields <= 20);
+        for (Method method : one.getDeclaredMethods()) {
+            holds(method + " takes seven at most", method.getParameterCount() <= 7);
+        }
     }
 
     private static void words() throws Exception {
